@@ -220,15 +220,14 @@ public final class DoughDebts {
     }
 
     public int orders(int what) {
-        int place = what - 10;
-        if (now.houses.count > MOST_SEARCHED || (what != 0 && !now.houses.has(place))) {
+        if (!canSearch(what)) {
             return NONE;
         }
         lineup.findSettled();
         if (what == 0) {
             return lineup.settledCount;
         }
-        return lineup.settledCount > 0 ? lineup.found[place] : NONE;
+        return lineup.settledCount > 0 ? lineup.found[what - 10] : NONE;
     }
 
     public int round(int what) {
@@ -240,12 +239,11 @@ public final class DoughDebts {
     }
 
     public int least(int what) {
-        int place = what - 10;
-        if (now.houses.count > MOST_SEARCHED || (what != 0 && !now.houses.has(place))) {
+        if (!canSearch(what)) {
             return NONE;
         }
         lineup.findLeastWood();
-        return what == 0 ? lineup.leastWood : lineup.found[place];
+        return what == 0 ? lineup.leastWood : lineup.found[what - 10];
     }
 
     public int leaven(int a, int b) {
@@ -363,6 +361,11 @@ public final class DoughDebts {
         }
         int k = what - 10;
         return k >= 0 && k < SETTINGS ? now.settings[k] : NONE;
+    }
+
+    /** Whether all orders can be gone through, and what is asked is a sum or a place of one. */
+    private boolean canSearch(int what) {
+        return now.houses.count <= MOST_SEARCHED && (what == 0 || now.houses.has(what - 10));
     }
 
     private static boolean isWithin(int v, int least, int most) {

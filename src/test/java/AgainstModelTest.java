@@ -1,5 +1,6 @@
 import java.util.ArrayList;
 import java.util.Arrays;
+import java.util.Collections;
 import java.util.List;
 import java.util.Random;
 
@@ -113,7 +114,7 @@ public final class AgainstModelTest {
         same("give " + h + " " + v, x.give(h, v), m.give(h, v));
     }
 
-    private String sum(int depth) {
+    private String sum() {
         StringBuilder b = new StringBuilder();
         b.append(unit());
         while (random.nextInt(3) == 0 && b.length() < 60) {
@@ -141,14 +142,14 @@ public final class AgainstModelTest {
         int kind = random.nextInt(depth > 9 ? 1 : depth > 3 ? 3 : 5);
         if (kind == 1) return "not " + single(depth + 1);
         if (kind == 2) return "(" + condition(depth + 1) + ")";
-        return sum(0) + "<=>".charAt(random.nextInt(3)) + sum(0);
+        return sum() + "<=>".charAt(random.nextInt(3)) + sum();
     }
 
     private String rule() {
         StringBuilder b = new StringBuilder();
         int lines = random.nextInt(8) == 0 ? pick(14, 18) : random.nextInt(4);
         for (int i = 0; i < lines; i++) {
-            b.append("worth ").append(lines > 6 ? unit() : sum(0));
+            b.append("worth ").append(lines > 6 ? unit() : sum());
             if (lines <= 6 && random.nextInt(3) > 0) b.append(" when ").append(condition(random.nextInt(12) == 0 ? 3 : 0));
             b.append(";");
         }
@@ -174,7 +175,7 @@ public final class AgainstModelTest {
     private String digits() {
         List<Integer> houses = new ArrayList<>();
         for (int h = 0; h < x.look(0); h++) houses.add(h);
-        java.util.Collections.shuffle(houses, random);
+        Collections.shuffle(houses, random);
         StringBuilder b = new StringBuilder();
         houses.forEach(b::append);
         if (random.nextInt(12) == 0 && b.length() > 0) mar(b);

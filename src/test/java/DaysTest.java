@@ -179,12 +179,14 @@ public final class DaysTest {
         x.undo();
         check.due("none left", x.undo(), false);
         check.due("day", x.look(1), 4);
-        x.days(5);
+        x.days(17);
         before = snapshot(x);
+        x.days(8);
+        for (int i = 0; i < 8; i++) x.undo();
+        same(before, snapshot(x));
         x.days(20);
         for (int i = 0; i < 8; i++) x.undo();
-        check.due("the last 8 of 20", x.look(1), 21);
-        check.due("book of the day before", x.book(0) >= 0, true);
+        check.due("the last 8 of 20", x.look(1), 33);
     }
 
     private static int[] snapshot(DoughDebts x) {

@@ -62,9 +62,5 @@ public final class LanguageTest {
         }
         check.due("no lambda or method reference", code.contains("->") || code.contains("::"), false);
         check.due("plain characters", text.chars().allMatch(c -> c < 128), true);
-        Matcher made = Pattern.compile("\\bnew (\\w+)").matcher(code);
-        int count = 0;
-        while (made.find()) count++;
-        check.due("something is made", count > 0, true);
     }
 }
