@@ -27,7 +27,7 @@ public final class NeverThrowsTest {
                 System.exit(1);
             }
         }
-        System.out.println("NeverThrowsTest: 600000 calls answered, sum " + sum);
+        System.out.println("NeverThrowsTest: no call threw in 400 runs (sum of the answers " + sum + ")");
     }
 
     private int any() {
