@@ -86,7 +86,9 @@ public final class ChangeEdgesTest {
     /** Promise 14: "GAIN of a HOUSE .. NONE - 999999999 if it is none". */
     private static void promise14House() {
         DoughDebts x = alike(2);
-        for (int house : new int[] {LOW, -1, 2, 3, '0', HIGH}) check.due("p14 of " + house, Check.gain(x, "01", house), FAR);
+        for (int house : new int[] {LOW, -1, 2, 3, '0', HIGH}) {
+            check.due("p14 of " + house, Check.gain(x, "01", house), FAR);
+        }
         check.due("p14 of the first", Check.gain(x, "01", 0), 9);
         check.due("p14 of the last", Check.gain(x, "01", 1), -11);
         check.due("p14 of no houses", new DoughDebts().gain(0), FAR);
@@ -348,7 +350,9 @@ public final class ChangeEdgesTest {
             DoughDebts x = baking(0, house(0, 1, 1), house(9, 1, 1), house(18, 1, 1), house(27, 1, 1),
                     house(36, 1, 1), house(45, 1, 1));
             StringBuilder rule = new StringBuilder("worth 9 when house=0;");
-            for (int i = 0; i < 5; i++) rule.append("worth ").append(5 - i).append(" when house=").append(ninths[i]).append(';');
+            for (int i = 0; i < 5; i++) {
+                rule.append("worth ").append(5 - i).append(" when house=").append(ninths[i]).append(';');
+            }
             check.due("p16 lines", Check.text(x, rule.toString()), 6);
             int changes = changesOf(ninths.clone());
             check.due("p16 changes of " + java.util.Arrays.toString(ninths), x.round(0), changes);

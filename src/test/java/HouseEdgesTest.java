@@ -272,7 +272,9 @@ public final class HouseEdgesTest {
     /** Promise 6: "DOUGH more for a HOUSE .. false if one can't be". */
     private static void promise6House() {
         DoughDebts x = withHouses(2);
-        for (int house : new int[] {LOW, -1, 2, 3, 8, 9, HIGH}) check.due("p6 give to " + house, x.give(house, 1), false);
+        for (int house : new int[] {LOW, -1, 2, 3, 8, 9, HIGH}) {
+            check.due("p6 give to " + house, x.give(house, 1), false);
+        }
         check.due("p6 give to the first", x.give(0, 3), true);
         check.due("p6 give to the last", x.give(1, 4), true);
         check.due("p6 dough of the first", x.of(0, 3), 3);

@@ -182,7 +182,9 @@ public final class ImageEdgesTest {
         for (int what = 0; what < want.length; what++) check.due("p28 of the ninth " + what, x.of(8, what), want[what]);
         check.due("p28 its mark is short", x.of(8, 11), FAR);
         int[] first = {90, 10, 1, 900, 0, 0, 0, 0, 0, 0, 0, 1};
-        for (int what = 0; what < first.length; what++) check.due("p28 of the first " + what, x.of(0, what), first[what]);
+        for (int what = 0; what < first.length; what++) {
+            check.due("p28 of the first " + what, x.of(0, what), first[what]);
+        }
     }
 
     /** Terms 4: DOUGH, BREAD, WOOD, FIRST, MONDAYS, SOUR, DAY, THE BOOK, what was lost. */

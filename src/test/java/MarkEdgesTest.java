@@ -102,7 +102,9 @@ public final class MarkEdgesTest {
     /** Promise 23: "or another what". */
     private static void promise23What() {
         DoughDebts x = marked("ab");
-        for (int what : new int[] {LOW, -1, 2, 3, HIGH}) check.due("p23 what " + what, Check.odds(x, "ab", 0, what), -1);
+        for (int what : new int[] {LOW, -1, 2, 3, HIGH}) {
+            check.due("p23 what " + what, Check.odds(x, "ab", 0, what), -1);
+        }
     }
 
     /** Promise 23: NONE by "no row of 1 .. 5 letters a .. h", of all 256 bytes. */

@@ -417,7 +417,8 @@ public final class RuleEdgesTest {
     /** Promise 8: each text is read anew, wherever the one before it broke off. */
     private static void promise8NothingIsLeftOfAFault() {
         String[] broken = {WHEN + "not not (((1=1 and 2*", WHEN + "(".repeat(9), WHEN + "not ".repeat(9), "worth 1+2*3",
-            "worth 1;".repeat(17), WHEN + "1=2-", WHEN + "(1=1", WHEN, "worth 1/0", "worth 1 wh", "worth 1 12345"};
+            "worth 1;".repeat(17), WHEN + "1=2-", WHEN + "not 1=1",
+            WHEN + "not 1=2*", WHEN + "(1=1", WHEN, "worth 1/0", "worth 1 wh", "worth 1 12345"};
         for (String text : broken) {
             DoughDebts x = onTuesday(2);
             check.due("p8 broken " + text, Check.text(x, text), -1);
@@ -570,12 +571,14 @@ public final class RuleEdgesTest {
         DoughDebts x = onTuesday(2);
         String[] are = {"not 1=2", "not not 1=1", "not not not 1=2", "not 1=1 or 1=1", "1=1 or 1=1 and 1=2",
             "1=2 and 1=2 or 1=1", "not 1=2 and 1=1", "not (1=1 and 1=2)", "not 1=2 or 1=1 and 1=2",
-            "1=1 and not 1=2", "2+3*4=14", "2*3+4=10", "10-2*3=4", "10-3-2=5", "10-3+2=9", "8/2/2=2", "7/2*2=6",
-            "2*7/2=7", "9-8/3=7", "1<0+5", "5=2+3", "5>2*2", "2*3<3+4", "((1=2 or 1=1) and (1=1))"};
+            "1=1 and not 1=2", "1<2 and 2>1 and 1=1", "not 2<1", "not 1>2", "2+3*4=14", "2*3+4=10", "10-2*3=4",
+            "10-3-2=5", "10-3+2=9", "8/2/2=2", "7/2*2=6", "2*7/2=7", "9-8/3=7", "1<0+5", "5=2+3", "5>2*2",
+            "2*3<3+4", "((1=2 or 1=1) and (1=1))"};
         for (String condition : are) so(x, condition, true);
-        String[] areNot = {"not 1=1", "not not 1=2", "not not not 1=1", "not (1=1 or 1=1)", "(1=1 or 1=1) and 1=2",
-            "not 1=1 and 1=1", "not 1=2 and 1=2", "1=2 or 1=1 and 1=2", "1>0+5", "1=1-1", "4>2*2", "2+3*4=20",
-            "10-3-2=9", "7/2*2=7", "1=1 and not 1=1", "not (1=2 or 1=1)"};
+        String[] areNot = {"not 1=1", "not 1<2", "not 2>1", "not not 2<1", "not not 1=2", "not not not 1=1",
+            "not (1=1 or 1=1)", "(1=1 or 1=1) and 1=2", "not 1=1 and 1=1", "not 1=2 and 1=2",
+            "1=2 or 1=1 and 1=2", "1>0+5", "1=1-1", "4>2*2", "2+3*4=20", "10-3-2=9", "7/2*2=7",
+            "1=1 and not 1=1", "not (1=2 or 1=1)"};
         for (String condition : areNot) so(x, condition, false);
     }
 
